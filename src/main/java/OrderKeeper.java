@@ -240,7 +240,7 @@ public final class OrderKeeper {
     }
 
     private static boolean has(long set, int t) {
-        return (set & bit(t)) != 0;
+        return (set >>> t & 1L) != 0;
     }
 
     /** Ties alone and ties of a bundle come by this one door, so they are judged alike. */

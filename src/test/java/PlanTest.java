@@ -65,6 +65,17 @@ public final class PlanTest {
         zeros.tie(1, 0);
         D.due("plan(1) of zeros", zeros.plan(1), 0);
         D.due("plan of zeros", Dues.plan(zeros), "0/0 0/0 0/0");
+        D.due("plan(2) of zeros", zeros.plan(2), 0);
+        D.due("the first worker has all zeros", Dues.plan(zeros), "0/0 0/0 0/0");
+        // What 0 makes ready goes to both workers before the lesser tail of 3.
+        OrderKeeper opens = Dues.withTasks(0, 9, 8, 7);
+        opens.tie(0, 1);
+        opens.tie(0, 2);
+        D.due("plan(2) of what a zero opens", opens.plan(2), 15);
+        D.due("plan of what a zero opens", Dues.plan(opens), "0/0 0/0 0/1 8/1");
+        OrderKeeper loose = Dues.withTasks(0, 0);
+        loose.plan(2);
+        D.due("plan of loose zeros", Dues.plan(loose), "0/0 0/0");
         // A task without weight waits for a free worker too.
         OrderKeeper busy = Dues.withTasks(4, 0);
         D.due("plan(1) of a busy one", busy.plan(1), 4);
