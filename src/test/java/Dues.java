@@ -1,3 +1,5 @@
+import java.util.Arrays;
+
 /** Counts the answers that are not as due, and prints them. */
 final class Dues {
     private final String name;
@@ -44,6 +46,48 @@ final class Dues {
                 left--;
             }
         }
+    }
+
+    /** 29 tasks can have 406 ties: those that are left out at 400 lie among the last four tasks. */
+    static OrderKeeper withManyTies(int many) {
+        OrderKeeper keeper = withManyTasks(29);
+        tieMany(keeper, 29, many);
+        return keeper;
+    }
+
+    /** Numbers that are no task's; some of them would be one's if they were cut to fewer bits. */
+    static int[] noTasks(int tasks) {
+        int[] numbers = {
+            -1, -2, -32, -63, -64, tasks, tasks + 1, 32, 33, 60, 61, 63, 64, 65, 128, 256, 65536, 1 << 30,
+            Integer.MAX_VALUE, Integer.MIN_VALUE, Integer.MIN_VALUE + 1};
+        return Arrays.stream(numbers).filter(number -> number < 0 || number >= tasks).toArray();
+    }
+
+    /** All that can be asked of an object with few tasks, to tell whether anything was done. */
+    static String state(OrderKeeper keeper) {
+        StringBuilder text = new StringBuilder("counts");
+        for (int what = 0; what <= 7; what++) {
+            text.append(" ").append(keeper.count(what));
+        }
+        text.append(", order ").append(order(keeper));
+        text.append(", weights ").append(times(keeper, 3));
+        text.append(", ties").append(ties(keeper));
+        text.append(", witness ").append(witness(keeper));
+        text.append(", plan ").append(plan(keeper));
+        return text.toString();
+    }
+
+    static String ties(OrderKeeper keeper) {
+        StringBuilder text = new StringBuilder();
+        int tasks = keeper.count(0);
+        for (int x = 0; x < tasks; x++) {
+            for (int y = 0; y < tasks; y++) {
+                if (keeper.tied(x, y) > 0) {
+                    text.append(" ").append(x).append(">").append(y);
+                }
+            }
+        }
+        return text.toString();
     }
 
     /** The tasks by their places; the places are looked at too. */

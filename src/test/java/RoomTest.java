@@ -30,7 +30,7 @@ public final class RoomTest {
         for (int t = 0; t < 60; t++) {
             k.task(t);
         }
-        for (int i = 0; i < 450; i++) {
+        for (int i = 0; i < 330; i++) {
             if (i % 3 == 0) {
                 k.gather(59 - i % 50, i % 7);
                 k.commit();
