@@ -7,6 +7,7 @@ import java.io.IOException;
 public final class EdgesTest {
     public static void main(String[] args) throws IOException {
         Sentences sentences = new Sentences("EdgesTest");
+        new WholeEdges(sentences).all();
         new UseEdges(sentences).all();
         new TaskEdges(sentences).all();
         new OrderEdges(sentences).all();

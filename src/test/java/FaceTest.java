@@ -1,19 +1,20 @@
+import java.io.IOException;
 import java.lang.reflect.Constructor;
-import java.lang.reflect.Executable;
 import java.lang.reflect.Field;
 import java.lang.reflect.Method;
 import java.lang.reflect.Modifier;
 import java.nio.file.Files;
 import java.nio.file.Path;
+import java.util.ArrayList;
+import java.util.Arrays;
+import java.util.List;
 import java.util.Set;
 import java.util.TreeSet;
-import java.util.regex.Matcher;
-import java.util.regex.Pattern;
 
-/** The public face of the document, and what a test can tell of the rules of LANGUAGE.md. */
+/** The public face: what the document shows of it is there, and nothing else is seen. */
 public final class FaceTest {
     private static final Dues D = new Dues("FaceTest");
-    private static final Path PROGRAM = Path.of("src/main/java/OrderKeeper.java");
+    private static final Path DOCUMENT = Path.of("../shared/DOC.md");
     private static final Set<String> FACE = Set.of(
         "task(1)", "weigh(2)", "tie(2)", "untie(2)", "gather(2)", "commit(0)", "undo(0)", "place(1)", "at(1)",
         "count(1)", "reaches(2)", "tied(2)", "witness(1)", "time(2)", "critical(1)", "plan(1)", "planned(2)",
@@ -23,8 +24,11 @@ public final class FaceTest {
         constants();
         methods();
         membersAreHidden();
-        classesInside();
-        wordsOfTheSource();
+        if (Files.isReadable(DOCUMENT)) {
+            faceOfTheDocument();
+        } else {
+            System.out.println("the face is not held against the document: it is not at " + DOCUMENT);
+        }
         D.end();
     }
 
@@ -55,6 +59,8 @@ public final class FaceTest {
         D.due("public methods", found, new TreeSet<>(FACE));
         D.due("public constructors", OrderKeeper.class.getConstructors().length, 1);
         D.due("its modifiers", Modifier.toString(OrderKeeper.class.getModifiers()), "public final");
+        D.due("what it extends", OrderKeeper.class.getSuperclass(), Object.class);
+        D.due("what it implements", OrderKeeper.class.getInterfaces().length, 0);
     }
 
     private static void membersAreHidden() {
@@ -71,43 +77,48 @@ public final class FaceTest {
         }
     }
 
-    private static void classesInside() {
-        Class<?>[] classes = OrderKeeper.class.getDeclaredClasses();
-        D.due("at most twelve classes", classes.length <= 12, true);
-        fewFields(OrderKeeper.class);
-        for (Class<?> inside : classes) {
-            int is = inside.getModifiers();
-            D.due(inside + " is static", Modifier.isStatic(is), true);
-            D.due(inside + " is not seen", Modifier.isPublic(is) || Modifier.isProtected(is), false);
-            fewFields(inside);
-            for (Executable method : inside.getDeclaredMethods()) {
-                D.due(method + " has few parameters", method.getParameterCount() <= 7, true);
+    private static void faceOfTheDocument() throws Exception {
+        List<String> shown = shownFace();
+        D.due("the document shows a face", shown.size() > 2, true);
+        D.due("the face, as the document shows it", new TreeSet<>(seenFace()), new TreeSet<>(shown));
+        D.due("each member once", seenFace().size(), shown.size());
+    }
+
+    /** The lines of the document's block, without the names of parameters, which the class does not keep. */
+    private static List<String> shownFace() throws IOException {
+        List<String> lines = new ArrayList<>();
+        boolean inside = false;
+        for (String line : Files.readAllLines(DOCUMENT)) {
+            if (line.startsWith("```")) {
+                inside = line.startsWith("```java");
+            } else if (inside && !line.trim().equals("}")) {
+                lines.add(line.trim().replaceAll("\\bint \\w+(?=[,)])", "int"));
             }
         }
+        return lines;
     }
 
-    private static void fewFields(Class<?> type) {
-        int sum = 0;
-        for (Field field : type.getDeclaredFields()) {
-            boolean shared = Modifier.isStatic(field.getModifiers());
-            D.due(field + " is not shared and changed", shared && !Modifier.isFinal(field.getModifiers()), false);
-            sum += shared ? 0 : 1;
+    private static List<String> seenFace() throws IllegalAccessException {
+        Class<?> type = OrderKeeper.class;
+        List<String> lines = new ArrayList<>();
+        lines.add(Modifier.toString(type.getModifiers()) + " class " + type.getName() + " {");
+        for (Field field : type.getFields()) {
+            lines.add(Modifier.toString(field.getModifiers()) + " " + field.getType() + " " + field.getName()
+                + " = " + field.getInt(null) + ";");
         }
-        D.due(type + " has few fields", sum <= 20, true);
+        for (Constructor<?> each : type.getConstructors()) {
+            lines.add("public " + type.getName() + parameters(each.getParameterTypes()));
+        }
+        for (Method each : type.getDeclaredMethods()) {
+            if (Modifier.isPublic(each.getModifiers())) {
+                lines.add(Modifier.toString(each.getModifiers()) + " " + each.getReturnType() + " " + each.getName()
+                    + parameters(each.getParameterTypes()));
+            }
+        }
+        return lines;
     }
 
-    private static void wordsOfTheSource() throws Exception {
-        String source = Files.readString(PROGRAM).replaceAll("(?s)/\\*.*?\\*/", "").replaceAll("//[^\n]*", "");
-        Matcher words = Pattern.compile(
-            "\\b(throw|throws|try|catch|finally|synchronized|assert|package|native|volatile|Object|Thread|Random)\\b"
-            + "|->|::|Exact\\b|System\\.(?!arraycopy)").matcher(source);
-        while (words.find()) {
-            D.due("a word that the rules rule out", words.group(), "");
-        }
-        Matcher imports = Pattern.compile("import\\s+([\\w.]+)").matcher(source);
-        while (imports.find()) {
-            String name = imports.group(1);
-            D.due("import " + name, name.matches("java\\.util\\.(Arrays|ArrayList|List|Iterator)"), true);
-        }
+    private static String parameters(Class<?>[] types) {
+        return Arrays.toString(types).replace("[", "(").replace("]", ")") + ";";
     }
 }

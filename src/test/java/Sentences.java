@@ -8,8 +8,8 @@ import java.util.Map;
 
 /**
  * Sentences of the document, each with the answers that a test of its own looks at. At the end the
- * document itself is looked at: that it has each of the quotes, and that no word of its terms and
- * promises is left without a test.
+ * document itself is looked at: that it has each of the quotes, and that no word of what it says of
+ * the class as a whole, of its terms and promises is left without a test.
  */
 final class Sentences {
     private static final Path DOCUMENT = Path.of("../shared/DOC.md");
@@ -55,7 +55,7 @@ final class Sentences {
         for (Map.Entry<String, String> section : sections.entrySet()) {
             String name = section.getKey();
             String left = leftOver(name, section.getValue());
-            if (name.equals("Terms") || name.startsWith("Promise ")) {
+            if (name.equals("What it is") || name.equals("Terms") || name.startsWith("Promise ")) {
                 dues.due(name + " has words without a test", left, "");
             }
         }
